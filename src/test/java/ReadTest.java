@@ -1,0 +1,170 @@
+/** Promises 3 and 4. */
+public final class ReadTest {
+    private static final Due due = new Due();
+
+    public static void main(String[] args) {
+        noneOfIt();
+        sizes();
+        elements();
+        values();
+        many();
+        order();
+        good();
+        state();
+        due.end();
+    }
+
+    private static void reads(String text, int fault, int place) {
+        LeanSets sets = new LeanSets();
+        Due.typeAll(sets, text);
+        due.same("read of <" + text + ">", sets.read(), fault);
+        due.same("place of <" + text + ">", sets.place(), place);
+        due.same("text behind <" + text + ">", sets.type(' ', 1), 1);
+    }
+
+    private static void noneOfIt() {
+        reads("", 1, 0);
+        reads("   ", 1, 3);
+        reads("size", 1, 4);
+        reads("size  ", 1, 6);
+        reads(" sizes 3", 1, 1);
+        reads("Size 3", 1, 0);
+        reads("sizE 3", 1, 0);
+        reads("weight 0=1", 1, 0);
+        reads("3", 1, 0);
+        reads("size -3", 1, 5);
+        reads("size 3 3", 1, 7);
+        reads("size 3 weight 0=1", 1, 7);
+        reads("size 3#", 1, 6);
+        reads("size 100000", 1, 5);
+        reads("size 000003", 1, 5);
+        reads("size3;weight0=000001", 1, 14);
+        reads("size 3;", 1, 7);
+        reads("size 3; ", 1, 8);
+        reads("size 3;;weight 0=1", 1, 7);
+        reads("size 3;size 3", 1, 7);
+        reads("size 3;0", 1, 7);
+        reads("size 3;weight -0=1", 1, 14);
+        reads("size 3;weight 0>1", 1, 15);
+        reads("size 3;weight 0=", 1, 16);
+        reads("size 3;weight 0=-", 1, 17);
+        reads("size 3;weight 0=- -1", 1, 18);
+        reads("size 3;weight 0=1 2", 1, 18);
+        reads("size 3;weights 0=1", 1, 7);
+        reads("size 3;arc 0 1=1", 1, 13);
+        reads("size 3;arc 0>=1", 1, 13);
+        reads("size 3;arc 0>1>2=1", 1, 14);
+        reads("size 3;arc 0>1=1-", 1, 16);
+        reads("size 3;curve 0 1=1 1", 1, 13);
+        reads("size 3;curve{=1", 1, 13);
+        reads("size 3;curve{0 -1}=1 1", 1, 15);
+        reads("size 3;curve{0}1", 1, 15);
+        reads("size 3;curve{0}=", 1, 16);
+        reads("size 3;curve{0}=;", 1, 16);
+        reads("size 3;curve{0 1}=1 - ;", 1, 22);
+        reads("size 3;curve{0 1}=1 weight 0=1", 1, 20);
+        reads("size 3;curve{0 1}=1 {", 1, 20);
+        reads("size 3;curve{0 1", 1, 16);
+    }
+
+    private static void sizes() {
+        reads("size 0", 2, 5);
+        reads("size   11;weight 0=1", 2, 7);
+        reads("size 99999", 2, 5);
+        reads("size 0;weight 0=1;arc 0>0=-1", 2, 5);
+        reads("size 1", 0, -1);
+        reads("size 10", 0, -1);
+        reads("size 00010", 0, -1);
+    }
+
+    private static void elements() {
+        reads("size 3;weight 3=1", 3, 14);
+        reads("size 3;weight 99999=1", 3, 14);
+        reads("size 3;weight 35=1", 3, 14);
+        reads("size 3;arc 3>3=1", 3, 11);
+        reads("size 3;arc 0>3=1", 3, 13);
+        reads("size 3;arc 2 > 2=1", 3, 15);
+        reads("size 3;curve{3}=1", 3, 13);
+        reads("size 3;curve{0 1 3}=1 1 1", 3, 17);
+        reads("size 3;curve{0 1 0 1}=1 1", 3, 17);
+        reads("size 3;curve{0 00}=1 1", 3, 15);
+        reads("size 10;weight 10=1", 3, 15);
+        reads("size 1;arc 0>0=0", 3, 13);
+    }
+
+    private static void values() {
+        reads("size 3;arc 0>1= -1", 4, 16);
+        reads("size 3;arc 0>1=- 1", 4, 15);
+        reads("size 3;arc 0>1=-0", 0, -1);
+        reads("size 3;arc 0>1=0", 0, -1);
+        reads("size 3;curve{0}=1 1", 4, 18);
+        reads("size 3;curve{0}=1 -1", 4, 18);
+        reads("size 3;curve{0 1}=1 2", 0, -1);
+        reads("size 3;curve{0 1}=1 3", 4, 20);
+        reads("size 3;curve{0 1}=-1 -2", 0, -1);
+        reads("size 3;curve{0 1}=-1 -1", 4, 21);
+        reads("size 3;curve{0 1}=0 0", 0, -1);
+        reads("size 3;curve{0 1}=0 1", 4, 20);
+        reads("size 3;curve{0 1 2}=5 9 12", 0, -1);
+        reads("size 3;curve{0 1 2}=5 9 14", 4, 24);
+        reads("size 3;curve{0 1 2}=5 9 13", 0, -1);
+        reads("size 3;curve{0 1 2}=5 11 99 99 99", 4, 22);
+        reads("size 3;curve{0 1 2}=1 2", 4, 23);
+        reads("size 3;curve{0 1 2}=1 2  ", 4, 25);
+        reads("size 3;curve{0 1 2}=1 2 ;weight 0=1", 4, 24);
+        reads("size 3;curve{0 1}=99999 -99999", 0, -1);
+    }
+
+    private static void many() {
+        String thirty = "size 2" + ";weight 0=1".repeat(30);
+        reads(thirty, 0, -1);
+        reads(thirty + "; arc 0>1=1", 5, thirty.length() + 2);
+        reads(thirty + ";arc 7>7=1", 5, thirty.length() + 1);
+        reads(thirty + ";arc 0>1=1;arc 0>1=1", 5, thirty.length() + 1);
+        reads(thirty + ";arc 0>1=1;arc", 1, thirty.length() + 14);
+        reads(thirty + ";", 1, thirty.length() + 1);
+        reads("size 2;curve{0 1}=1" + ";weight 0=1".repeat(30), 4, 19);
+    }
+
+    private static void order() {
+        reads("size 3;weight 3=1;arc 0>1=-1", 3, 14);
+        reads("size 3;arc 0>1=-1;weight 3=1", 4, 15);
+        reads("size 3;arc 0>1=-1;weight 3=", 1, 27);
+        reads("size 11;arc 0>1=-1;?", 1, 19);
+        reads("size 3;curve{0 4}=1 5;weight 9=1", 3, 15);
+        reads("size 3;curve{0 1}=1;weight 9=1", 4, 19);
+        reads("size 3;arc 0>0=-1", 3, 13);
+    }
+
+    private static void good() {
+        reads("size3;weight0=1;arc0>1=2;curve{0 1}=3 4", 0, -1);
+        reads("  size 3 ; weight 0 = - 1 ; arc 0 > 1 = 2 ; curve { 0 1 } = 3 4  ", 0, -1);
+        reads("size 3;curve{0 1}=3-4", 0, -1);
+        reads("size 3;curve{0 1 2}=-1-2-3;weight 2=-99999", 0, -1);
+    }
+
+    private static void state() {
+        LeanSets sets = Due.of("size 2;weight 0=3;arc 1>0=4");
+        sets.tell(1, 9);
+        Due.typeAll(sets, "size 3;weight 1=7;arc 1>1=1");
+        due.same("a fault", sets.read(), 3);
+        due.same("its place", sets.place(), 24);
+        due.same("size stays", sets.count(0), 2);
+        due.same("weights stay", sets.count(1), 1);
+        due.same("function stays", sets.value(2), 4);
+        due.same("function stays", sets.value(1), 3);
+        due.same("vector stays", sets.surplus(), -6);
+        due.same("chain stays", sets.turn(0, 2), 3);
+        due.same("no text", sets.read(), 1);
+        due.same("place 0", sets.place(), 0);
+        due.same("function stays", sets.value(2), 4);
+        Due.typeAll(sets, "size 2;weight 1=5");
+        due.same("place before read", sets.place(), 0);
+        due.same("read", sets.read(), 0);
+        due.same("place", sets.place(), -1);
+        due.same("the function is new", sets.value(3), 5);
+        due.same("the arc is gone", sets.count(2), 0);
+        due.same("the vector is 0", sets.surplus(), 0);
+        due.same("of both elements", sets.worst(1), 1);
+    }
+}
