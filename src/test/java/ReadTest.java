@@ -11,6 +11,7 @@ public final class ReadTest {
         order();
         good();
         state();
+        nothingIsLeft();
         due.end();
     }
 
@@ -65,6 +66,36 @@ public final class ReadTest {
         reads("size 3;curve{0 1}=1 weight 0=1", 1, 20);
         reads("size 3;curve{0 1}=1 {", 1, 20);
         reads("size 3;curve{0 1", 1, 16);
+        endsTooEarly();
+        wrongSigns();
+    }
+
+    private static void endsTooEarly() {
+        String[] texts = {"size 3;weight 0=-1", "size 3;arc 0>1=1", "size 3;curve{0 1}=1 1"};
+        for (String text : texts) {
+            for (int length = 7; length < text.length(); length++) {
+                String part = text.substring(0, length);
+                boolean inAName = Character.isLetter(part.charAt(length - 1)) && Character.isLetter(text.charAt(length));
+                if (!inAName && !part.endsWith("=1") && !part.endsWith("1 ")) {
+                    reads(part, 1, length);
+                    reads(part + ";weight 0=1", 1, length);
+                }
+            }
+        }
+    }
+
+    private static void wrongSigns() {
+        reads("size 3=weight 0=1", 1, 6);
+        reads("size 3;weight 0;1", 1, 15);
+        reads("size 3;arc 0-1=1", 1, 12);
+        reads("size 3;weight 0=>1", 1, 16);
+        reads("size 3;curve}0}=1", 1, 12);
+        reads("size 3;curve{0{=1", 1, 14);
+        reads("size 3:weight 0=1", 1, 6);
+        reads("size 3;weight 0=+1", 1, 16);
+        reads("size 3;waight 0=1", 1, 7);
+        reads("size 3;weighs 0=1", 1, 7);
+        reads("rize 3", 1, 0);
     }
 
     private static void sizes() {
@@ -166,5 +197,34 @@ public final class ReadTest {
         due.same("the arc is gone", sets.count(2), 0);
         due.same("the vector is 0", sets.surplus(), 0);
         due.same("of both elements", sets.worst(1), 1);
+    }
+
+    /** What an earlier text or vector had beyond the new one's end counts no more. */
+    private static void nothingIsLeft() {
+        LeanSets sets = Due.of("size 10;weight 9=12345;weight 0=1");
+        sets.tell(0, 8);
+        sets.tell(9, 8);
+        Due.typeAll(sets, "size 1");
+        due.same("digits are left behind", sets.read(), 0);
+        due.same("size", sets.count(0), 1);
+        due.same("value", sets.value(1), 0);
+        sets.tell(0, 8);
+        due.same("the vector was 0", sets.surplus(), -8);
+        Due.typeAll(sets, "size 10;arc");
+        due.same("letters are left behind", sets.read(), 1);
+        Due.typeAll(sets, "size 10");
+        due.same("a longer text is left behind", sets.read(), 0);
+        sets.tell(9, 8);
+        due.same("the vector was 0", sets.surplus(), -8);
+        Due.typeAll(sets, " ".repeat(594) + "size 1");
+        due.same("a number that ends with the 600th character", sets.read(), 0);
+        Due.typeAll(sets, " ".repeat(596) + "size");
+        due.same("a name that ends with the 600th character", sets.read(), 1);
+        due.same("place", sets.place(), 600);
+        Due.typeAll(sets, "sized");
+        due.same("no such name", sets.read(), 1);
+        Due.typeAll(sets, "size");
+        due.same("size, and d is left behind", sets.read(), 1);
+        due.same("place", sets.place(), 4);
     }
 }

@@ -63,8 +63,23 @@ public final class VectorTest {
         for (int x : new int[] {3, -1, 32, Integer.MIN_VALUE}) {
             due.refused("tight(" + x + ")", Due.INDEX, () -> sets.tight(x));
         }
+        notBelowElsewhere();
         LeanSets cut = Due.of("size 2;arc 0>1=5;arc 1>0=5");
         due.same("both or none", cut.tight(0), 3);
         due.same("both or none", cut.tight(1), 3);
+    }
+
+    /** A set is tight, but another one, without its element or without the other one, has less than the vector. */
+    private static void notBelowElsewhere() {
+        LeanSets sets = Due.of("size 2;curve{0 1}=4 6");
+        sets.tell(0, 1);
+        sets.tell(1, 5);
+        due.same("not below without 0", sets.tight(0), -1);
+        sets.tell(0, 5);
+        sets.tell(1, 1);
+        due.same("not below without 1", sets.tight(1), -1);
+        sets.tell(0, 3);
+        sets.tell(1, 3);
+        due.same("below", sets.tight(1), 3);
     }
 }
