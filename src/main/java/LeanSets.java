@@ -33,8 +33,6 @@ public final class LeanSets {
     private static final int END = 11;
     private static final int NO_WORD = 12;
 
-    private final Words words;
-    private final Terms terms;
     private final TextReader reader;
     private final SetTable function;
     private final SetTable gaps;
@@ -45,9 +43,7 @@ public final class LeanSets {
     private int size;
 
     public LeanSets() {
-        words = new Words();
-        terms = new Terms();
-        reader = new TextReader(words, terms);
+        reader = new TextReader();
         function = new SetTable();
         gaps = new SetTable();
         chain = new Chain();
@@ -58,6 +54,7 @@ public final class LeanSets {
     }
 
     public int type(long characters, int n) {
+        Words words = reader.words;
         if (n < 1 || n > MOST_TYPED_AT_ONCE || words.length + n > MOST_CHARACTERS) {
             return NONE;
         }
@@ -74,14 +71,14 @@ public final class LeanSets {
     }
 
     public int read() {
-        words.split();
+        reader.words.split();
         reader.begin();
         if (!reader.readText()) {
             reader.refuseWord();
         }
-        words.length = 0;
+        reader.words.length = 0;
         if (reader.fault == 0) {
-            takeOver();
+            takeOver(reader.terms);
         }
         return reader.fault;
     }
@@ -232,7 +229,7 @@ public final class LeanSets {
         }
     }
 
-    private void takeOver() {
+    private void takeOver(Terms terms) {
         size = terms.size;
         for (int kind = 0; kind < KINDS_COUNTED; kind++) {
             counts[kind] = 0;
@@ -416,19 +413,13 @@ public final class LeanSets {
 
     /** Reads the words as the grammar has them; faults of meaning count only if all words can stand. */
     private static final class TextReader {
-        private final Words words;
-        private final Terms terms;
+        final Words words = new Words();
+        final Terms terms = new Terms();
         private int next;
         private int takenPlace;
         private int takenNumber;
         int fault;
-        int faultPlace;
-
-        TextReader(Words words, Terms terms) {
-            this.words = words;
-            this.terms = terms;
-            this.faultPlace = NONE;
-        }
+        int faultPlace = NONE;
 
         void begin() {
             next = 0;
