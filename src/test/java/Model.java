@@ -205,11 +205,7 @@ final class Model {
     }
 
     long gap(int set, long[] v) {
-        long gap = f[set];
-        for (int x = 0; x < size; x++) {
-            gap -= (set >> x & 1) * v[x];
-        }
-        return gap;
+        return f[set] - sum(v, set);
     }
 
     long tight(int x, long[] v) {
@@ -224,5 +220,64 @@ final class Model {
             }
         }
         return meet;
+    }
+
+    /** The point's number for an element, as above and below. */
+    long[] point(int x) {
+        for (long[] turn : turns) {
+            if ((turn[2] >> x & 1) == 1) {
+                return turn;
+            }
+        }
+        throw new AssertionError("the chain ends before all elements are in");
+    }
+
+    long check() {
+        long times = 1;
+        while (!makesWhole(times)) {
+            times++;
+        }
+        long[] whole = new long[size];
+        List<Integer> order = new ArrayList<>();
+        for (int x = 0; x < size; x++) {
+            whole[x] = point(x)[0] * times / point(x)[1];
+            order.add(x);
+        }
+        order.sort((x, y) -> whole[x] != whole[y] ? Long.compare(whole[x], whole[y]) : x - y);
+        boolean holds = true;
+        for (int set = 0; set < f.length; set++) {
+            holds &= sum(whole, set) <= times * f[set];
+        }
+        holds &= sum(whole, f.length - 1) == times * f[f.length - 1];
+        long[] extreme = new long[size];
+        int before = 0;
+        for (int x : order) {
+            extreme[x] = f[before | 1 << x] - f[before];
+            before |= 1 << x;
+        }
+        long there = 0;
+        for (long[] turn : turns) {
+            int came = (int) (turn[2] & ~there);
+            holds &= sum(whole, came) == times * sum(extreme, came);
+            there = turn[2];
+        }
+        return holds ? 1 : 0;
+    }
+
+    private boolean makesWhole(long times) {
+        for (long[] turn : turns) {
+            if (turn[0] * times % turn[1] != 0) {
+                return false;
+            }
+        }
+        return true;
+    }
+
+    private static long sum(long[] v, int set) {
+        long sum = 0;
+        for (int x = 0; x < v.length; x++) {
+            sum += (set >> x & 1) * v[x];
+        }
+        return sum;
     }
 }

@@ -10,70 +10,16 @@ public final class ModelTest {
 
     public static void main(String[] args) {
         for (int i = 0; i < 1500; i++) {
-            compareFunction(someText(i % 3 == 0 ? 99999 : i % 3 == 1 ? 20 : 3));
+            compareFunction(TextMaker.good(random, i % 3 == 0 ? 99999 : i % 3 == 1 ? 20 : 3));
         }
         for (int i = 0; i < 60000; i++) {
-            compareFault(spoiled(someText(20)));
+            compareFault(TextMaker.spoiled(random, TextMaker.good(random, 20)));
         }
         due.end();
     }
 
     private static int below(int bound) {
         return random.nextInt(bound);
-    }
-
-    private static String someText(int largest) {
-        int size = 1 + below(10);
-        StringBuilder text = new StringBuilder("size " + size);
-        int many = below(10) == 0 ? 28 + below(4) : below(9);
-        for (int i = 0; i < many && text.length() < 500; i++) {
-            text.append(below(3) == 0 ? " ;" : ";").append(someTerm(size, largest));
-        }
-        return text.toString();
-    }
-
-    private static String someTerm(int size, int largest) {
-        int kind = below(3);
-        if (kind == 0 || size == 1 && kind == 1) {
-            return "weight " + below(size) + "=" + (below(2 * largest + 1) - largest);
-        }
-        List<Integer> elements = new ArrayList<>();
-        for (int x = 0; x < size; x++) {
-            elements.add(x);
-        }
-        Collections.shuffle(elements, random);
-        if (kind == 1) {
-            return "arc " + elements.get(0) + " > " + elements.get(1) + " = " + below(largest + 1);
-        }
-        int many = 1 + below(size);
-        StringBuilder text = new StringBuilder("curve{");
-        int rise = below(largest / 10 + 2);
-        int value = 0;
-        StringBuilder values = new StringBuilder();
-        for (int i = 0; i < many; i++) {
-            text.append(elements.get(i)).append(' ');
-            value += rise;
-            values.append(' ').append(value);
-            rise -= below(largest / 60 + 3);
-        }
-        return text.append("} =").append(values).toString();
-    }
-
-    private static final String[] PIECES = {" ", ";", "=", ">", "-", "{", "}", "0", "1", "7", "12", "123456", "a",
-        "size", "weight", "arc", "curve", "#", "A", " 1", " -1", "-0", ";arc 0>1=1", ";weight 0=1", ";curve{0 1}=1"};
-
-    private static String spoiled(String good) {
-        StringBuilder text = new StringBuilder(good);
-        for (int i = below(4); i > 0; i--) {
-            int at = below(text.length() + 1);
-            if (below(2) == 0 && at < text.length()) {
-                text.delete(at, Math.min(text.length(), at + 1 + below(2)));
-            } else {
-                text.insert(at, PIECES[below(PIECES.length)]);
-            }
-        }
-        text.setLength(below(40) == 0 ? below(text.length() + 1) : Math.min(text.length(), 600));
-        return text.toString();
     }
 
     private static LeanSets compareFault(String text) {
@@ -151,7 +97,7 @@ public final class ModelTest {
             }
             before = (int) turn[2];
         }
-        due.same("check() of " + text, sets.check(), 1);
+        due.same("check() of " + text, sets.check(), model.check());
     }
 
     /** From an extreme vector, which lies below with many tight sets, by small steps. */

@@ -15,57 +15,49 @@ public final class ReadTest {
         due.end();
     }
 
-    private static void reads(String text, int fault, int place) {
-        LeanSets sets = new LeanSets();
-        Due.typeAll(sets, text);
-        due.same("read of <" + text + ">", sets.read(), fault);
-        due.same("place of <" + text + ">", sets.place(), place);
-        due.same("text behind <" + text + ">", sets.type(' ', 1), 1);
-    }
-
     private static void noneOfIt() {
-        reads("", 1, 0);
-        reads("   ", 1, 3);
-        reads("size", 1, 4);
-        reads("size  ", 1, 6);
-        reads(" sizes 3", 1, 1);
-        reads("Size 3", 1, 0);
-        reads("sizE 3", 1, 0);
-        reads("weight 0=1", 1, 0);
-        reads("3", 1, 0);
-        reads("size -3", 1, 5);
-        reads("size 3 3", 1, 7);
-        reads("size 3 weight 0=1", 1, 7);
-        reads("size 3#", 1, 6);
-        reads("size 100000", 1, 5);
-        reads("size 000003", 1, 5);
-        reads("size3;weight0=000001", 1, 14);
-        reads("size 3;", 1, 7);
-        reads("size 3; ", 1, 8);
-        reads("size 3;;weight 0=1", 1, 7);
-        reads("size 3;size 3", 1, 7);
-        reads("size 3;0", 1, 7);
-        reads("size 3;weight -0=1", 1, 14);
-        reads("size 3;weight 0>1", 1, 15);
-        reads("size 3;weight 0=", 1, 16);
-        reads("size 3;weight 0=-", 1, 17);
-        reads("size 3;weight 0=- -1", 1, 18);
-        reads("size 3;weight 0=1 2", 1, 18);
-        reads("size 3;weights 0=1", 1, 7);
-        reads("size 3;arc 0 1=1", 1, 13);
-        reads("size 3;arc 0>=1", 1, 13);
-        reads("size 3;arc 0>1>2=1", 1, 14);
-        reads("size 3;arc 0>1=1-", 1, 16);
-        reads("size 3;curve 0 1=1 1", 1, 13);
-        reads("size 3;curve{=1", 1, 13);
-        reads("size 3;curve{0 -1}=1 1", 1, 15);
-        reads("size 3;curve{0}1", 1, 15);
-        reads("size 3;curve{0}=", 1, 16);
-        reads("size 3;curve{0}=;", 1, 16);
-        reads("size 3;curve{0 1}=1 - ;", 1, 22);
-        reads("size 3;curve{0 1}=1 weight 0=1", 1, 20);
-        reads("size 3;curve{0 1}=1 {", 1, 20);
-        reads("size 3;curve{0 1", 1, 16);
+        due.reads("", 1, 0);
+        due.reads("   ", 1, 3);
+        due.reads("size", 1, 4);
+        due.reads("size  ", 1, 6);
+        due.reads(" sizes 3", 1, 1);
+        due.reads("Size 3", 1, 0);
+        due.reads("sizE 3", 1, 0);
+        due.reads("weight 0=1", 1, 0);
+        due.reads("3", 1, 0);
+        due.reads("size -3", 1, 5);
+        due.reads("size 3 3", 1, 7);
+        due.reads("size 3 weight 0=1", 1, 7);
+        due.reads("size 3#", 1, 6);
+        due.reads("size 100000", 1, 5);
+        due.reads("size 000003", 1, 5);
+        due.reads("size3;weight0=000001", 1, 14);
+        due.reads("size 3;", 1, 7);
+        due.reads("size 3; ", 1, 8);
+        due.reads("size 3;;weight 0=1", 1, 7);
+        due.reads("size 3;size 3", 1, 7);
+        due.reads("size 3;0", 1, 7);
+        due.reads("size 3;weight -0=1", 1, 14);
+        due.reads("size 3;weight 0>1", 1, 15);
+        due.reads("size 3;weight 0=", 1, 16);
+        due.reads("size 3;weight 0=-", 1, 17);
+        due.reads("size 3;weight 0=- -1", 1, 18);
+        due.reads("size 3;weight 0=1 2", 1, 18);
+        due.reads("size 3;weights 0=1", 1, 7);
+        due.reads("size 3;arc 0 1=1", 1, 13);
+        due.reads("size 3;arc 0>=1", 1, 13);
+        due.reads("size 3;arc 0>1>2=1", 1, 14);
+        due.reads("size 3;arc 0>1=1-", 1, 16);
+        due.reads("size 3;curve 0 1=1 1", 1, 13);
+        due.reads("size 3;curve{=1", 1, 13);
+        due.reads("size 3;curve{0 -1}=1 1", 1, 15);
+        due.reads("size 3;curve{0}1", 1, 15);
+        due.reads("size 3;curve{0}=", 1, 16);
+        due.reads("size 3;curve{0}=;", 1, 16);
+        due.reads("size 3;curve{0 1}=1 - ;", 1, 22);
+        due.reads("size 3;curve{0 1}=1 weight 0=1", 1, 20);
+        due.reads("size 3;curve{0 1}=1 {", 1, 20);
+        due.reads("size 3;curve{0 1", 1, 16);
         endsTooEarly();
         wrongSigns();
     }
@@ -77,101 +69,101 @@ public final class ReadTest {
                 String part = text.substring(0, length);
                 boolean inAName = Character.isLetter(part.charAt(length - 1)) && Character.isLetter(text.charAt(length));
                 if (!inAName && !part.endsWith("=1") && !part.endsWith("1 ")) {
-                    reads(part, 1, length);
-                    reads(part + ";weight 0=1", 1, length);
+                    due.reads(part, 1, length);
+                    due.reads(part + ";weight 0=1", 1, length);
                 }
             }
         }
     }
 
     private static void wrongSigns() {
-        reads("size 3=weight 0=1", 1, 6);
-        reads("size 3;weight 0;1", 1, 15);
-        reads("size 3;arc 0-1=1", 1, 12);
-        reads("size 3;weight 0=>1", 1, 16);
-        reads("size 3;curve}0}=1", 1, 12);
-        reads("size 3;curve{0{=1", 1, 14);
-        reads("size 3:weight 0=1", 1, 6);
-        reads("size 3;weight 0=+1", 1, 16);
-        reads("size 3;waight 0=1", 1, 7);
-        reads("size 3;weighs 0=1", 1, 7);
-        reads("rize 3", 1, 0);
+        due.reads("size 3=weight 0=1", 1, 6);
+        due.reads("size 3;weight 0;1", 1, 15);
+        due.reads("size 3;arc 0-1=1", 1, 12);
+        due.reads("size 3;weight 0=>1", 1, 16);
+        due.reads("size 3;curve}0}=1", 1, 12);
+        due.reads("size 3;curve{0{=1", 1, 14);
+        due.reads("size 3:weight 0=1", 1, 6);
+        due.reads("size 3;weight 0=+1", 1, 16);
+        due.reads("size 3;waight 0=1", 1, 7);
+        due.reads("size 3;weighs 0=1", 1, 7);
+        due.reads("rize 3", 1, 0);
     }
 
     private static void sizes() {
-        reads("size 0", 2, 5);
-        reads("size   11;weight 0=1", 2, 7);
-        reads("size 99999", 2, 5);
-        reads("size 0;weight 0=1;arc 0>0=-1", 2, 5);
-        reads("size 1", 0, -1);
-        reads("size 10", 0, -1);
-        reads("size 00010", 0, -1);
+        due.reads("size 0", 2, 5);
+        due.reads("size   11;weight 0=1", 2, 7);
+        due.reads("size 99999", 2, 5);
+        due.reads("size 0;weight 0=1;arc 0>0=-1", 2, 5);
+        due.reads("size 1", 0, -1);
+        due.reads("size 10", 0, -1);
+        due.reads("size 00010", 0, -1);
     }
 
     private static void elements() {
-        reads("size 3;weight 3=1", 3, 14);
-        reads("size 3;weight 99999=1", 3, 14);
-        reads("size 3;weight 35=1", 3, 14);
-        reads("size 3;arc 3>3=1", 3, 11);
-        reads("size 3;arc 0>3=1", 3, 13);
-        reads("size 3;arc 2 > 2=1", 3, 15);
-        reads("size 3;curve{3}=1", 3, 13);
-        reads("size 3;curve{0 1 3}=1 1 1", 3, 17);
-        reads("size 3;curve{0 1 0 1}=1 1", 3, 17);
-        reads("size 3;curve{0 00}=1 1", 3, 15);
-        reads("size 10;weight 10=1", 3, 15);
-        reads("size 1;arc 0>0=0", 3, 13);
+        due.reads("size 3;weight 3=1", 3, 14);
+        due.reads("size 3;weight 99999=1", 3, 14);
+        due.reads("size 3;weight 35=1", 3, 14);
+        due.reads("size 3;arc 3>3=1", 3, 11);
+        due.reads("size 3;arc 0>3=1", 3, 13);
+        due.reads("size 3;arc 2 > 2=1", 3, 15);
+        due.reads("size 3;curve{3}=1", 3, 13);
+        due.reads("size 3;curve{0 1 3}=1 1 1", 3, 17);
+        due.reads("size 3;curve{0 1 0 1}=1 1", 3, 17);
+        due.reads("size 3;curve{0 00}=1 1", 3, 15);
+        due.reads("size 10;weight 10=1", 3, 15);
+        due.reads("size 1;arc 0>0=0", 3, 13);
     }
 
     private static void values() {
-        reads("size 3;arc 0>1= -1", 4, 16);
-        reads("size 3;arc 0>1=- 1", 4, 15);
-        reads("size 3;arc 0>1=-0", 0, -1);
-        reads("size 3;arc 0>1=0", 0, -1);
-        reads("size 3;curve{0}=1 1", 4, 18);
-        reads("size 3;curve{0}=1 -1", 4, 18);
-        reads("size 3;curve{0 1}=1 2", 0, -1);
-        reads("size 3;curve{0 1}=1 3", 4, 20);
-        reads("size 3;curve{0 1}=-1 -2", 0, -1);
-        reads("size 3;curve{0 1}=-1 -1", 4, 21);
-        reads("size 3;curve{0 1}=0 0", 0, -1);
-        reads("size 3;curve{0 1}=0 1", 4, 20);
-        reads("size 3;curve{0 1 2}=5 9 12", 0, -1);
-        reads("size 3;curve{0 1 2}=5 9 14", 4, 24);
-        reads("size 3;curve{0 1 2}=5 9 13", 0, -1);
-        reads("size 3;curve{0 1 2}=5 11 99 99 99", 4, 22);
-        reads("size 3;curve{0 1 2}=1 2", 4, 23);
-        reads("size 3;curve{0 1 2}=1 2  ", 4, 25);
-        reads("size 3;curve{0 1 2}=1 2 ;weight 0=1", 4, 24);
-        reads("size 3;curve{0 1}=99999 -99999", 0, -1);
+        due.reads("size 3;arc 0>1= -1", 4, 16);
+        due.reads("size 3;arc 0>1=- 1", 4, 15);
+        due.reads("size 3;arc 0>1=-0", 0, -1);
+        due.reads("size 3;arc 0>1=0", 0, -1);
+        due.reads("size 3;curve{0}=1 1", 4, 18);
+        due.reads("size 3;curve{0}=1 -1", 4, 18);
+        due.reads("size 3;curve{0 1}=1 2", 0, -1);
+        due.reads("size 3;curve{0 1}=1 3", 4, 20);
+        due.reads("size 3;curve{0 1}=-1 -2", 0, -1);
+        due.reads("size 3;curve{0 1}=-1 -1", 4, 21);
+        due.reads("size 3;curve{0 1}=0 0", 0, -1);
+        due.reads("size 3;curve{0 1}=0 1", 4, 20);
+        due.reads("size 3;curve{0 1 2}=5 9 12", 0, -1);
+        due.reads("size 3;curve{0 1 2}=5 9 14", 4, 24);
+        due.reads("size 3;curve{0 1 2}=5 9 13", 0, -1);
+        due.reads("size 3;curve{0 1 2}=5 11 99 99 99", 4, 22);
+        due.reads("size 3;curve{0 1 2}=1 2", 4, 23);
+        due.reads("size 3;curve{0 1 2}=1 2  ", 4, 25);
+        due.reads("size 3;curve{0 1 2}=1 2 ;weight 0=1", 4, 24);
+        due.reads("size 3;curve{0 1}=99999 -99999", 0, -1);
     }
 
     private static void many() {
         String thirty = "size 2" + ";weight 0=1".repeat(30);
-        reads(thirty, 0, -1);
-        reads(thirty + "; arc 0>1=1", 5, thirty.length() + 2);
-        reads(thirty + ";arc 7>7=1", 5, thirty.length() + 1);
-        reads(thirty + ";arc 0>1=1;arc 0>1=1", 5, thirty.length() + 1);
-        reads(thirty + ";arc 0>1=1;arc", 1, thirty.length() + 14);
-        reads(thirty + ";", 1, thirty.length() + 1);
-        reads("size 2;curve{0 1}=1" + ";weight 0=1".repeat(30), 4, 19);
+        due.reads(thirty, 0, -1);
+        due.reads(thirty + "; arc 0>1=1", 5, thirty.length() + 2);
+        due.reads(thirty + ";arc 7>7=1", 5, thirty.length() + 1);
+        due.reads(thirty + ";arc 0>1=1;arc 0>1=1", 5, thirty.length() + 1);
+        due.reads(thirty + ";arc 0>1=1;arc", 1, thirty.length() + 14);
+        due.reads(thirty + ";", 1, thirty.length() + 1);
+        due.reads("size 2;curve{0 1}=1" + ";weight 0=1".repeat(30), 4, 19);
     }
 
     private static void order() {
-        reads("size 3;weight 3=1;arc 0>1=-1", 3, 14);
-        reads("size 3;arc 0>1=-1;weight 3=1", 4, 15);
-        reads("size 3;arc 0>1=-1;weight 3=", 1, 27);
-        reads("size 11;arc 0>1=-1;?", 1, 19);
-        reads("size 3;curve{0 4}=1 5;weight 9=1", 3, 15);
-        reads("size 3;curve{0 1}=1;weight 9=1", 4, 19);
-        reads("size 3;arc 0>0=-1", 3, 13);
+        due.reads("size 3;weight 3=1;arc 0>1=-1", 3, 14);
+        due.reads("size 3;arc 0>1=-1;weight 3=1", 4, 15);
+        due.reads("size 3;arc 0>1=-1;weight 3=", 1, 27);
+        due.reads("size 11;arc 0>1=-1;?", 1, 19);
+        due.reads("size 3;curve{0 4}=1 5;weight 9=1", 3, 15);
+        due.reads("size 3;curve{0 1}=1;weight 9=1", 4, 19);
+        due.reads("size 3;arc 0>0=-1", 3, 13);
     }
 
     private static void good() {
-        reads("size3;weight0=1;arc0>1=2;curve{0 1}=3 4", 0, -1);
-        reads("  size 3 ; weight 0 = - 1 ; arc 0 > 1 = 2 ; curve { 0 1 } = 3 4  ", 0, -1);
-        reads("size 3;curve{0 1}=3-4", 0, -1);
-        reads("size 3;curve{0 1 2}=-1-2-3;weight 2=-99999", 0, -1);
+        due.reads("size3;weight0=1;arc0>1=2;curve{0 1}=3 4", 0, -1);
+        due.reads("  size 3 ; weight 0 = - 1 ; arc 0 > 1 = 2 ; curve { 0 1 } = 3 4  ", 0, -1);
+        due.reads("size 3;curve{0 1}=3-4", 0, -1);
+        due.reads("size 3;curve{0 1 2}=-1-2-3;weight 2=-99999", 0, -1);
     }
 
     private static void state() {
